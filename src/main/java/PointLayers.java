@@ -580,7 +580,7 @@ public final class PointLayers {
             weights[laid] = weight;
             goneAs[laid] = 0;
             laid++;
-            carried += Integer.lowestOneBit(laid);
+            carried += newestLayer(laid);
             next++;
             return next - 1;
         }
@@ -592,7 +592,7 @@ public final class PointLayers {
             int weight = weights[i];
             ghosts++;
             goneAs[i] = ghosts;
-            carried += Integer.lowestOneBit(ghosts);
+            carried += newestLayer(ghosts);
             if (ghosts > there()) {
                 layAnew();
             }
@@ -690,6 +690,11 @@ public final class PointLayers {
                 }
             }
             return has;
+        }
+
+        // As figures are carried, the layer made last is the lowest bit of the sum.
+        private static int newestLayer(int sum) {
+            return sum & -sum;
         }
 
         // All greater layers stand ahead of it: those are the bits above its own.
