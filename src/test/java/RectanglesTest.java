@@ -86,6 +86,9 @@ public final class RectanglesTest {
         D.due("2 of 3", p.half(0, 9, 0, 0), 4);
         D.due("none", p.half(1, 3, LOW, HIGH), Due.NONE);
         D.due("BAD", p.half(3, 1, LOW, HIGH), Due.BAD);
+        PointLayers q = of(9, 0, 4, 0, -10, 0, 0, 0, 9, 400);
+        D.due("3 of 5, put in no order", q.half(LOW, HIGH, LOW, HIGH), 4);
+        D.due("one at the left edge of all", of(-500, 3).half(LOW, -500, LOW, HIGH), -500);
     }
 
     private static void below() {
@@ -124,6 +127,7 @@ public final class RectanglesTest {
         D.due("BAD", p.near(0, 501), Due.BAD);
         D.due("BAD", p.near(-501, 0), Due.BAD);
         D.due("none", new PointLayers().near(0, 0), Due.NONE);
+        D.due("as far as can be", of(500, 500).near(-500, -500), 0);
     }
 
     private static void strip() {
@@ -168,6 +172,16 @@ public final class RectanglesTest {
         D.due("one", r.square(3, 0), 1);
         D.due("x", r.square(3, 1), 0);
         D.due("y", r.square(3, 2), 2);
+        // Put in no order, with as many from two X and two Y each: the least ones.
+        PointLayers u = of(50, 50, 55, 52, 20, 90, 24, 95, 20, 10, 24, 12, 400, 11, 0, 300);
+        D.due("two", u.square(5, 0), 2);
+        D.due("x", u.square(5, 1), 20);
+        D.due("y", u.square(5, 2), 10);
+        // Many beside the column do not count: three lie above one another elsewhere.
+        PointLayers v = of(0, 0, 1, 1, 200, 20, 210, 21, 220, 22, 0, 100);
+        D.due("two", v.square(2, 0), 2);
+        D.due("x", v.square(2, 1), 0);
+        D.due("y", v.square(2, 2), 0);
         PointLayers t = of(9, 9, 9, 9, 9, 9, 0, 0);
         D.due("like places", t.square(0, 0), 3);
         D.due("x", t.square(0, 1), 9);
@@ -181,6 +195,7 @@ public final class RectanglesTest {
         D.due("pairs", p.pairs(), 5);
         p.take(2);
         D.due("without 2", p.pairs(), 2);
+        D.due("the first above the second", of(5, 5, 4, 4).pairs(), 1);
     }
 
     private static void stair() {
@@ -194,6 +209,8 @@ public final class RectanglesTest {
         D.due("not so many", p.stair(4), Due.NONE);
         D.due("far", p.stair(Integer.MAX_VALUE), Due.NONE);
         D.due("BAD", p.stair(-2), Due.BAD);
+        D.due("the first is above the second", of(5, 5, 4, 4).stair(-1), 1);
+        D.due("the second is above the first", of(4, 4, 5, 5).stair(0), 1);
         D.due("no points", new PointLayers().stair(-1), 0);
         D.due("no points", new PointLayers().stair(0), Due.NONE);
     }
@@ -244,6 +261,7 @@ public final class RectanglesTest {
         D.due("taken away ones are counted", p.inLayer(4, 0, LOW, HIGH, LOW, HIGH), 4);
         D.due("ghosts as they became such", p.inLayer(2, 1, 5, 5, -5, -5) + p.inLayer(2, 1, 0, 0, 0, 0), 2);
         D.due("the third", p.inLayer(1, 1, 3, 3, -3, -3), 1);
+        D.due("not the third", p.inLayer(2, 1, LOW, HIGH, LOW, HIGH), 2);
         p.take(1);
         D.due("laid anew: no ghosts", p.inLayer(4, 1, LOW, HIGH, LOW, HIGH), Due.NONE);
         D.due("two by numbers: 2, 4", p.inLayer(2, 0, 2, 4, -4, -2), 2);
