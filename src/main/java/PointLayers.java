@@ -326,7 +326,7 @@ public final class PointLayers {
             return refuse(BAD);
         }
         box.becomeRectangle(a, b, c, d);
-        return what == 0 ? field.inLayerOfPoints(size, box) : field.inLayerOfGhosts(size, box);
+        return field.hasInLayer(size, what == 1, box);
     }
 
     // ---- areas
@@ -663,28 +663,15 @@ public final class PointLayers {
             return numbers[i] < numbers[j];
         }
 
-        int inLayerOfPoints(int size, Shape where) {
-            if ((laid & size) == 0) {
+        int hasInLayer(int size, boolean ofGhosts, Shape where) {
+            int sum = ofGhosts ? ghosts : laid;
+            if ((sum & size) == 0) {
                 return NONE;
             }
-            int first = layerStart(laid, size);
+            int first = layerStart(sum, size);
             int has = 0;
             for (int i = 0; i < laid; i++) {
-                if (i >= first && i < first + size && where.holds(xs[i], ys[i])) {
-                    has++;
-                }
-            }
-            return has;
-        }
-
-        int inLayerOfGhosts(int size, Shape where) {
-            if ((ghosts & size) == 0) {
-                return NONE;
-            }
-            int first = layerStart(ghosts, size);
-            int has = 0;
-            for (int i = 0; i < laid; i++) {
-                int nth = goneAs[i] - 1;
+                int nth = ofGhosts ? goneAs[i] - 1 : i;
                 if (nth >= first && nth < first + size && where.holds(xs[i], ys[i])) {
                     has++;
                 }
@@ -800,10 +787,18 @@ public final class PointLayers {
         }
 
         void sortByPlace(Field field) {
+            sort(field, false);
+        }
+
+        void sortByHeight(Field field) {
+            sort(field, true);
+        }
+
+        private void sort(Field field, boolean byHeight) {
             for (int i = 1; i < filled; i++) {
                 int moved = row[i];
                 int to = i;
-                while (to > 0 && field.isBeforeByPlace(moved, row[to - 1])) {
+                while (to > 0 && isBefore(field, moved, row[to - 1], byHeight)) {
                     row[to] = row[to - 1];
                     to--;
                 }
@@ -811,16 +806,8 @@ public final class PointLayers {
             }
         }
 
-        void sortByHeight(Field field) {
-            for (int i = 1; i < filled; i++) {
-                int moved = row[i];
-                int to = i;
-                while (to > 0 && field.ys[moved] < field.ys[row[to - 1]]) {
-                    row[to] = row[to - 1];
-                    to--;
-                }
-                row[to] = moved;
-            }
+        private static boolean isBefore(Field field, int i, int j, boolean byHeight) {
+            return byHeight ? field.ys[i] < field.ys[j] : field.isBeforeByPlace(i, j);
         }
 
         void turnToNumbers(Field field) {
