@@ -668,7 +668,8 @@ public final class ModelTest {
         }
 
         void go() {
-            while (calls < CALLS) {
+            // A step may be of two calls.
+            while (calls < CALLS - 1) {
                 if (busy && random.nextInt(3) > 0) {
                     churn();
                 } else {

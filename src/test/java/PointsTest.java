@@ -13,7 +13,6 @@ public final class PointsTest {
         undo();
         of();
         nth();
-        numbersAtAnEnd();
         D.end();
     }
 
@@ -260,30 +259,5 @@ public final class PointsTest {
         D.due("far", p.nth(Integer.MAX_VALUE), Due.NONE);
         D.due("minus", p.nth(-1), Due.BAD);
         D.due("NONE is not refused", p.status(0), 1);
-    }
-
-    private static void numbersAtAnEnd() {
-        D.promise("2, 4, 5 numbers at an end");
-        PointLayers p = new PointLayers();
-        for (int i = 0; i < 166; i++) {
-            p.scatter(i, 30);
-            p.scatter(i, 30);
-            p.sweep(-500, 500, -500, 500);
-        }
-        D.due("9960 are given", p.size(2), 9960);
-        D.due("30 more", p.scatter(1, 30), 30);
-        D.due("9 more", p.scatter(1, 9), 39);
-        D.due("9999", p.size(2), 9999);
-        D.due("two are too many", p.scatter(1, 2), Due.FULL);
-        D.due("the last one", p.put(0, 0, 1), 9999);
-        D.due("put", p.put(0, 0, 1), Due.FULL);
-        D.due("move", p.move(9999, 0, 0), Due.FULL);
-        D.due("move, BAD first", p.move(9999, 0, 501), Due.BAD);
-        D.due("scatter", p.scatter(1, 1), Due.FULL);
-        D.due("still 40", p.size(0), 40);
-        D.due("by counter 5: 9999 leaves 9", p.counter(5) + p.of(9999, 3), 10);
-        p.undo();
-        p.undo();
-        D.due("the number may be given again", p.put(0, 0, 2), 9999);
     }
 }
