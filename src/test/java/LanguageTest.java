@@ -1,5 +1,7 @@
+import com.sun.source.tree.Tree;
 import java.io.IOException;
 import java.lang.management.ManagementFactory;
+import java.lang.reflect.Array;
 import java.lang.reflect.Field;
 import java.lang.reflect.Member;
 import java.lang.reflect.Method;
@@ -8,7 +10,10 @@ import java.nio.file.Files;
 import java.nio.file.Path;
 import java.util.ArrayList;
 import java.util.Arrays;
+import java.util.Comparator;
+import java.util.EnumSet;
 import java.util.List;
+import java.util.Random;
 import java.util.Set;
 import java.util.TreeSet;
 import java.util.regex.Matcher;
@@ -25,13 +30,21 @@ public final class LanguageTest {
         + "inLayer(int,int,int,int,int,int)int type(int)int clear()int area()int inside()int covers(int,int)int "
         + "found(int)int mow()int odds(int,int,int,int,int,int)int part(int)long image(int)int from(int)int "
         + "status(int)int size(int)int digest()long";
+    private static final Set<Tree.Kind> FORBIDDEN = EnumSet.of(Tree.Kind.LAMBDA_EXPRESSION, Tree.Kind.MEMBER_REFERENCE,
+        Tree.Kind.THROW, Tree.Kind.TRY, Tree.Kind.CATCH, Tree.Kind.SYNCHRONIZED, Tree.Kind.ASSERT, Tree.Kind.ANNOTATION,
+        Tree.Kind.IMPORT, Tree.Kind.PACKAGE);
+    // The class uses less than the rules leave: what is not here is looked up in the rules before it is added.
+    private static final String TYPES = "void|boolean|(int|long)(\\[])?|PointLayers\\.\\w+(\\[])?";
+    private static final Set<String> LIBRARY = Set.of("System.arraycopy", "Integer.bitCount", "Math.max", "Math.abs");
     private static final Due D = new Due();
 
     public static void main(String[] args) throws IOException {
         face();
         classes();
         source(Files.readString(SOURCE));
+        tree(new Source(SOURCE));
         room();
+        neverThrows();
         D.end();
     }
 
@@ -124,6 +137,78 @@ public final class LanguageTest {
         D.holds("methods were seen", seen > 60);
     }
 
+    private static void tree(Source source) {
+        D.promise("rules 2, 6");
+        for (Tree.Kind kind : source.kinds) {
+            D.holds("no " + kind, !FORBIDDEN.contains(kind));
+        }
+        D.promise("rule 3");
+        for (String type : source.types) {
+            D.holds("no " + type, type.matches(TYPES));
+        }
+        D.promise("rule 4");
+        for (String call : source.fromLibrary) {
+            D.holds("no " + call, LIBRARY.contains(call));
+        }
+        D.promise("rule 5");
+        D.holds("statics " + source.statics, source.statics.equals(Set.of("final int")));
+        D.holds("no blocks in " + source.blocks, source.blocks.isEmpty());
+        D.promise("rule 8");
+        for (String method : source.calls.keySet()) {
+            D.holds(method + " carries its depth",
+                !source.isRecursive(method) || source.parameters.get(method).contains("depth"));
+        }
+        D.holds("a recursion was seen", source.isRecursive("Reader.readSpot"));
+        D.promise("rule 9");
+        D.holds("each loop counts, but not in " + source.endless, source.endless.isEmpty());
+        D.promise("rule 11");
+        for (String method : source.calls.keySet()) {
+            D.holds(method + " goes eight deep at most", source.deepest(method) <= 8);
+        }
+        D.due("the deepest that was seen", source.deepest("PointLayers.area"), 8);
+        D.promise("rule 12");
+        D.holds("made by constructors alone: " + source.makers,
+            source.makers.stream().allMatch(method -> method.endsWith(".<init>")));
+    }
+
+    /** Whatever is asked, far more often than is promised; and what is asked twice is answered alike. */
+    private static void neverThrows() {
+        D.promise("rules 7, 13");
+        Random random = new Random(7);
+        List<Method> calls = new ArrayList<>(Arrays.asList(PointLayers.class.getDeclaredMethods()));
+        calls.removeIf(m -> !Modifier.isPublic(m.getModifiers()));
+        calls.sort(Comparator.comparing(Method::getName));
+        for (int range : new int[] {3, 70, 600, Integer.MAX_VALUE}) {
+            PointLayers p = new PointLayers();
+            PointLayers twin = new PointLayers();
+            for (int i = 0; i < 20000; i++) {
+                Method call = calls.get(random.nextInt(calls.size()));
+                Object[] given = new Object[call.getParameterCount()];
+                Arrays.setAll(given, j -> any(random, range));
+                D.holds(call.getName() + Arrays.toString(given), answer(p, call, given).equals(answer(twin, call, given)));
+            }
+        }
+    }
+
+    private static Integer any(Random random, int range) {
+        int[] ends = {0, -1, 1, 500, -500, 501, -501, Integer.MAX_VALUE, Integer.MIN_VALUE};
+        int signs = "[]0123456789,+-&!();".charAt(random.nextInt(20));
+        return switch (random.nextInt(5)) {
+            case 0 -> ends[random.nextInt(ends.length)];
+            case 1 -> signs;
+            default -> range == Integer.MAX_VALUE ? random.nextInt() : random.nextInt(2 * range + 1) - range;
+        };
+    }
+
+    private static Object answer(PointLayers p, Method call, Object[] given) {
+        try {
+            return call.invoke(p, given);
+        } catch (ReflectiveOperationException e) {
+            D.holds(call.getName() + Arrays.toString(given) + " threw " + e.getCause(), false);
+            return "threw";
+        }
+    }
+
     /** A run of calls of every kind makes nothing: all rows are made with the object. */
     private static void room() {
         D.promise("rule 12");
@@ -136,6 +221,40 @@ public final class LanguageTest {
         }
         long made = bean.getCurrentThreadAllocatedBytes() - ahead;
         D.holds("calls make no objects, but made " + made, made < 4096);
+        int[] has = new int[2];
+        measure(p, has);
+        D.holds("512 objects have room, each of " + has[0], 512 * has[0] <= 600_000);
+        D.holds("512 objects have room, each with elements " + has[1], 512 * has[1] <= 7_300_000);
+        D.holds("all of an object was seen", has[0] > 50 && has[1] > 5000);
+    }
+
+    /** Objects and arrays (0), fields and elements (1) of a thing; each is held once. */
+    private static void measure(Object thing, int[] has) {
+        has[0]++;
+        if (thing.getClass().isArray()) {
+            has[1] += Array.getLength(thing);
+            for (int i = 0; i < Array.getLength(thing) && thing instanceof Object[] row; i++) {
+                measure(row[i], has);
+            }
+            return;
+        }
+        for (Field f : thing.getClass().getDeclaredFields()) {
+            if (!Modifier.isStatic(f.getModifiers())) {
+                has[1]++;
+                f.setAccessible(true);
+                if (!f.getType().isPrimitive()) {
+                    measure(valueOf(f, thing), has);
+                }
+            }
+        }
+    }
+
+    private static Object valueOf(Field f, Object thing) {
+        try {
+            return f.get(thing);
+        } catch (IllegalAccessException e) {
+            throw new IllegalStateException(e);
+        }
     }
 
     private static void everyCall(PointLayers p) {
